@@ -394,9 +394,13 @@ public final class FewThatMatter {
                 }
             }
             for (int column = 1; column < below && depth + 2 < leastBound; column++) {
-                takeOut(depth, column, column);
-                seekBound(depth + 1, column);
+                seekBoundTo(depth, column);
             }
+        }
+
+        private void seekBoundTo(int depth, int column) {
+            takeOut(depth, column, column);
+            seekBound(depth + 1, column);
         }
 
         /**
@@ -427,11 +431,16 @@ public final class FewThatMatter {
             int stillToTake = size - depth - 1;
             for (int column = stillToTake; column < below && ways < enough; column++) {
                 if (!isNought(depth, column)) {
-                    takeOut(depth, column, stillToTake > 0 ? column : 0);
-                    takeOutOf(SUMS_SLOT, depth, column);
-                    seekTelling(depth + 1, column, set | 1 << column);
+                    seekTellingWith(depth, column, set);
                 }
             }
+        }
+
+        private void seekTellingWith(int depth, int column, int set) {
+            boolean isLast = depth + 1 >= size;
+            takeOut(depth, column, isLast ? 0 : column);
+            takeOutOf(SUMS_SLOT, depth, column);
+            seekTelling(depth + 1, column, set | 1 << column);
         }
 
         private void noteTelling(int set) {

@@ -421,6 +421,14 @@ public final class PromiseTest {
         rowIs(14, x, 0, 4, 1, 3, 0);
         due(14, "greedy(0, 5, 0): sums of nought", x.greedy(0, 5, 0), 100);
         rowIs(14, x, 0, 0, 0, 0, 0);
+        table(x, 5, new int[][] {{1, 0, 0}, {0, 1, 0}, {0, 0, 1}});
+        sums(x, 0, 4, 0, 3);
+        due(14, "greedy(0, 0, 8): twice the weight is spark", x.greedy(0, 0, 8), 0);
+        // column 0 a second time would help here, but it is in the set
+        table(x, 5, new int[][] {{3, 0}, {0, 3}, {0, 3}, {0, 4}, {4, 2}, {3, 2}});
+        sums(x, 0, 3, 4, 1, 2, 3, 2);
+        due(14, "greedy(0, 0, 8): a column comes once", x.greedy(0, 0, 8), 3);
+        rowIs(14, x, 0, 1, 3);
         // the first of columns that do alike, the least of factors that do alike
         table(x, 7, new int[][] {{2, 1, 1}, {1, 1, 1}});
         sums(x, 0, 3, 6);
@@ -525,8 +533,26 @@ public final class PromiseTest {
         due(17, "decode(): one false place", x.decode(), 10001);
         due(17, "decoded(0, 0)", x.decoded(0, 0), 0);
         due(17, "decoded(0, 1)", x.decoded(0, 1), 1);
+        notSingle();
         manyTold();
         falseForEver();
+    }
+
+    private static void notSingle() {
+        undecoded("the third sum is another's", new int[] {0, 28}, new int[] {1, 1});
+        undecoded("the place falls into another bucket", new int[] {5, 10, 15}, new int[] {3, -3, 1});
+        undecoded("the place is above 999999", new int[] {999991, 999977, 999963}, new int[] {3, -3, 1});
+        undecoded("the place is below 0", new int[] {0, 14, 28}, new int[] {3, -3, 1});
+        // the cut quotient 3052 has the third sum, and falls into the bucket
+        undecoded("the first sum does not divide the second", new int[] {4276, 1829}, new int[] {1, 1});
+    }
+
+    private static void undecoded(String why, int[] places, int[] numbers) {
+        FewThatMatter x = new FewThatMatter();
+        for (int i = 0; i < places.length; i++) {
+            x.add(places[i], numbers[i]);
+        }
+        due(17, "decode(): " + why, x.decode(), 0);
     }
 
     /** More than 100 places that peel off one by one: all are counted, the first 100 kept. */
