@@ -3,7 +3,10 @@ import java.util.ArrayList;
 import java.util.Arrays;
 import java.util.List;
 
-/** Runs of calls beside a plain model that takes the document at its word: it goes through all rows and sets. */
+/**
+ * Runs of calls beside a plain model that takes the document at its word: it goes through all rows and sets, and
+ * where the rows are too many for that, through all sets with determinants. No object is called over 512 times.
+ */
 public final class OracleTest {
     private static final int[] SMALL = {2, 3, 5};
     private static final int[] ALL = {2, 3, 5, 7, 11, 13, 23, 47, 89, 97};
@@ -27,6 +30,11 @@ public final class OracleTest {
             run = "prime " + i;
             seed = 611953L * i + 3;
             tableRun(ALL[pick(ALL.length)], 1 + pick(6), 1 + pick(12), 1 + pick(2));
+        }
+        for (int i = 0; i < 300; i++) {
+            run = "deep " + i;
+            seed = 32452843L * i + 11;
+            deepRun(ALL[pick(ALL.length)], 1 + pick(6), 1 + pick(12));
         }
         for (int i = 0; i < 2000; i++) {
             run = "sketch " + i;
@@ -63,19 +71,7 @@ public final class OracleTest {
     private static void tableRun(int p, int m, int n, int mostWeight) {
         FewThatMatter x = new FewThatMatter();
         Plain plain = new Plain();
-        due("begin", x.begin(p, m, n), plain.begin(p, m, n));
-        int density = 1 + pick(4);
-        if (pick(4) == 0) {
-            int a = pick(p);
-            due("powers", x.powers(a), plain.powers(a));
-        } else {
-            for (int i = 0; i < m; i++) {
-                for (int j = 0; j < n; j++) {
-                    int v = pick(4) < density ? pick(2 * p) - p : 0;
-                    due("set", x.set(i, j, v), plain.set(i, j, v));
-                }
-            }
-        }
+        anyTable(x, plain, p, m, n);
         for (int t = 0; t < 40; t++) {
             step(x, plain, mostWeight);
         }
@@ -91,6 +87,65 @@ public final class OracleTest {
             for (int i = -1; i < m; i++) {
                 due("told", x.told(w, i), plain.told(w, i));
             }
+        }
+    }
+
+    private static void anyTable(FewThatMatter x, Plain plain, int p, int m, int n) {
+        due("begin", x.begin(p, m, n), plain.begin(p, m, n));
+        int density = 1 + pick(4);
+        if (pick(4) == 0) {
+            int a = pick(p);
+            due("powers", x.powers(a), plain.powers(a));
+            return;
+        }
+        for (int i = 0; i < m; i++) {
+            for (int j = 0; j < n; j++) {
+                int v = pick(4) < density ? pick(2 * p) - p : 0;
+                due("set", x.set(i, j, v), plain.set(i, j, v));
+            }
+        }
+    }
+
+    /** Rows of weight up to 5 are told, some sums made false, and found again with every weight allowed. */
+    private static void deepRun(int p, int m, int n) {
+        FewThatMatter x = new FewThatMatter();
+        Plain plain = new Plain();
+        anyTable(x, plain, p, m, n);
+        for (int t = 0; t < 6; t++) {
+            int hidden = pick(6);
+            for (int places = pick(6); places > 0; places--) {
+                int j = pick(n);
+                int v = pick(p);
+                due("put", x.put(hidden, j, v), plain.put(hidden, j, v));
+            }
+            int y = pick(6);
+            due("tell", x.tell(y, hidden), plain.tell(y, hidden));
+            int row = pick(6);
+            int k = pick(5);
+            due("find(" + k + ")", x.find(row, y, k), plain.find(row, y, k));
+            sameRow(x, plain, row);
+            for (int falseSums = pick(4); falseSums > 0; falseSums--) {
+                int i = pick(m);
+                int v = pick(p);
+                due("sum", x.sum(y, i, v), plain.sum(y, i, v));
+            }
+            row = pick(6);
+            k = pick(4);
+            int e = pick(4);
+            due("miss(" + k + ", " + e + ")", x.miss(row, y, k, e), plain.miss(row, y, k, e));
+            sameRow(x, plain, row);
+            k = pick(9);
+            due("greedy(" + k + ")", x.greedy(row, y, k), plain.greedy(row, y, k));
+            sameRow(x, plain, row);
+        }
+        for (int what = 0; what < 4; what++) {
+            due("judge(" + what + ")", x.judge(what), plain.judge(what));
+        }
+    }
+
+    private static void sameRow(FewThatMatter x, Plain plain, int row) {
+        for (int j = -1; j < plain.n; j++) {
+            due("row(" + row + ", " + j + ")", x.row(row, j), plain.row(row, j));
         }
     }
 
@@ -441,8 +496,10 @@ public final class OracleTest {
                 bestRow = null;
                 ofThatWeight = 0;
                 for (int set = 0; set < 1 << n; set++) {
-                    if (Integer.bitCount(set) == weight) {
+                    if (Integer.bitCount(set) == weight && Math.pow(p - 1, weight) < 10000) {
                         fill(y, e, set, 0, new int[n]);
+                    } else if (Integer.bitCount(set) == weight) {
+                        solve(y, e, set, weight);
                     }
                 }
                 if (bestRow != null) {
@@ -462,17 +519,73 @@ public final class OracleTest {
                 row[j] = 0;
                 return;
             }
-            int[] told = tells(row);
-            int differs = 0;
-            for (int i = 0; i < m; i++) {
-                differs += told[i] != y[i] ? 1 : 0;
-            }
+            int differs = differs(row, y);
             if (differs <= e) {
                 ofThatWeight++;
                 if (bestRow == null || differs < bestDiffers) {
                     bestRow = row.clone();
                     bestDiffers = differs;
                 }
+            }
+        }
+
+        int differs(int[] row, int[] y) {
+            int[] told = tells(row);
+            int differs = 0;
+            for (int i = 0; i < m; i++) {
+                differs += told[i] != y[i] ? 1 : 0;
+            }
+            return differs;
+        }
+
+        /**
+         * The rows of a set that agree with y in as many rows of the table as fix them. Where no such rows fix
+         * them, the set is bound there and one column fewer does as well: a lesser weight had been found.
+         */
+        void solve(int[] y, int e, int set, int weight) {
+            int[] least = null;
+            int leastDiffers = e + 1;
+            for (int chosen = 0; chosen < 1 << m; chosen++) {
+                int[] row = Integer.bitCount(chosen) == weight ? cramer(y, chosen, set) : null;
+                if (row != null && weightOf(row) == weight) {
+                    int differs = differs(row, y);
+                    boolean less = differs == leastDiffers && least != null && Arrays.compare(row, least) < 0;
+                    if (differs < leastDiffers || less) {
+                        least = row;
+                        leastDiffers = differs;
+                    }
+                }
+            }
+            if (least != null) {
+                ofThatWeight++;
+                if (bestRow == null || leastDiffers < bestDiffers) {
+                    bestRow = least;
+                    bestDiffers = leastDiffers;
+                }
+            }
+        }
+
+        int[] cramer(int[] y, int chosen, int set) {
+            int below = determinant(chosen, set);
+            int[] row = new int[n];
+            for (int j = 0; j < n && below != 0; j++) {
+                if ((set >> j & 1) != 0) {
+                    swapColumn(y, j);
+                    int above = determinant(chosen, set);
+                    swapColumn(y, j);
+                    while (below * row[j] % p != above) {
+                        row[j]++;
+                    }
+                }
+            }
+            return below == 0 ? null : row;
+        }
+
+        void swapColumn(int[] y, int j) {
+            for (int i = 0; i < m; i++) {
+                int was = table[i][j];
+                table[i][j] = y[i];
+                y[i] = was;
             }
         }
 

@@ -557,24 +557,29 @@ public final class PromiseTest {
 
     /** More than 100 places that peel off one by one: all are counted, the first 100 kept. */
     private static void manyTold() {
-        FewThatMatter trial = new FewThatMatter();
-        FewThatMatter x = new FewThatMatter();
-        trial.sketch(4, 32);
-        x.sketch(4, 32);
+        int[] places = new int[110];
         int added = 0;
         for (int q = 0; q < 2000 && added < 110; q++) {
-            trial.add(q, 1);
-            if (trial.decode() == 10001 + added) {
-                x.add(q, 1);
+            places[added] = q;
+            if (withOnesAt(places, added + 1).decode() == 10001 + added) {
                 added++;
-            } else {
-                trial.add(q, -1);
             }
         }
+        FewThatMatter x = withOnesAt(places, added);
         due(17, "decode() of 110", x.decode(), 10110);
         due(18, "decoded(99, 1)", x.decoded(99, 1), 1);
         due(18, "decoded(100, 0): not kept", x.decoded(100, 0), -1000000004L);
         due(18, "decoded(100, 2)", x.decoded(100, 2), -1000000001L);
+    }
+
+    /** A new object each time, so that none is used beyond its 512 calls. */
+    private static FewThatMatter withOnesAt(int[] places, int many) {
+        FewThatMatter x = new FewThatMatter();
+        x.sketch(4, 32);
+        for (int t = 0; t < many; t++) {
+            x.add(places[t], 1);
+        }
+        return x;
     }
 
     /** A false single that comes back through the second line again and again: it ends at 200. */
